@@ -79,9 +79,10 @@ public final class FoldingTest {
         CHECK.due("where(-1, 0)", x.where(-1, 0), PaperHouse.NONE);
         CHECK.due("where(0, -1)", x.where(0, -1), PaperHouse.NONE);
         CHECK.due("where(0, 5)", x.where(0, 5), PaperHouse.NONE);
-        CHECK.due("caliper at first", x.where(0, 4), 0);
-        x.book(2, 0, 1);
-        CHECK.due("creep", x.where(3, 4), 1);
+        CHECK.due("where(4, 4)", x.where(4, 4), PaperHouse.NONE);
+        CHECK.due("creep at first", x.where(0, 4), 0);
+        Check.fold(x, "sheet 1 4\nfold lr\n");
+        CHECK.due("caliper at first", x.where(3, 4), 1);
     }
 
     private static void singleFolds() {

@@ -69,7 +69,9 @@ public final class PilesTest {
         CHECK.due("pile(1000, 1)", x.pile(1000, 1), PaperHouse.NONE);
         CHECK.due("pile(1, 1000)", x.pile(1, 1000), PaperHouse.NONE);
         CHECK.due("no pile", x.count(10), 0);
-        CHECK.due("an empty program", x.pile(999, 1), 1);
+        CHECK.due("an empty program, high", x.pile(1, 999), 1);
+        piece(x, 0, 0, 0, 1, 999);
+        CHECK.due("an empty program, wide", x.pile(999, 1), 1);
         piece(x, 0, 0, 0, 999, 1);
         CHECK.due("piece(0, 4)", x.piece(0, 4), PaperHouse.NONE);
         CHECK.due("piece(0, -1)", x.piece(0, -1), PaperHouse.NONE);

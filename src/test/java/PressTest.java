@@ -13,6 +13,8 @@ public final class PressTest {
         spoiledAndNumbers();
         manySheets();
         goodLimits();
+        aimAtFirst();
+        numbersAnew();
         smallShare();
         anyPrinting();
         CHECK.finish();
@@ -159,6 +161,44 @@ public final class PressTest {
         CHECK.due("count(8)", x.count(8), 400);
         CHECK.due("number(599)", x.number(599), 400);
         CHECK.due("good(1): the 600th is spoiled", x.good(1), 2);
+    }
+
+    /** AIM 500 and TOLERANCE 50, up to their edges. */
+    private static void aimAtFirst() {
+        boolean[] seen = new boolean[5000];
+        for (int v = 0; v < 256; v++) {
+            PaperHouse x = covered(12, 0);
+            x.key(0, v);
+            x.mount(0, 0);
+            for (int i = 0; i < 60; i++) {
+                int good = x.print(1);
+                int density = x.zone(0, 3);
+                seen[density] = true;
+                CHECK.due("good at density " + density, good, density >= 450 && density <= 550 ? 1 : 0);
+            }
+        }
+        CHECK.due("all edges were met", seen[449] && seen[450] && seen[550] && seen[551]);
+    }
+
+    private static void numbersAnew() {
+        PaperHouse x = new PaperHouse();
+        x.mount(0, 0);
+        x.print(40);
+        x.mount(0, 0);
+        x.aim(0, 0, 1);
+        x.print(40);
+        for (int k = 1; k <= 40; k++) {
+            CHECK.due("number " + k + " anew", x.number(k), 0);
+        }
+        x.mount(0, 0);
+        x.aim(0, 0, 0);
+        for (int i = 0; i < 8; i++) {
+            CHECK.due("print(500)", x.print(500), 500);
+        }
+        for (int k = 1; k <= 4000; k += 31) {
+            CHECK.due("number " + k, x.number(k), k);
+        }
+        CHECK.due("number 4000", x.number(4000), 4000);
     }
 
     /** A COVERAGE below ROWS has no SHARE: no DENSITY, but the ZONE counts. */

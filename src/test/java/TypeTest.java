@@ -100,6 +100,9 @@ public final class TypeTest {
         CHECK.due("9 lines", x.count(9), 9);
         CHECK.due("4 more", Check.set(x, 20, "e f g h k n o p q r s t\n"), 4);
         CHECK.due("13 lines", x.count(9), 13);
+        PaperHouse z = new PaperHouse();
+        CHECK.due("12 lines", Check.set(z, 20, "aaa bbb ccc ddd eee fff ggg hhh kkk nnn ooo ppp\n"), 12);
+        CHECK.due("the last one", z.strip(11, 0), 16);
         PaperHouse y = new PaperHouse();
         for (int i = 0; i < 15; i++) {
             CHECK.due("line " + i, Check.set(y, 20, "i\n"), 1);

@@ -16,7 +16,7 @@ public final class FoldingTest {
     }
 
     private static void wrong(String text, int place) {
-        PaperHouse x = new PaperHouse();
+        House x = new House();
         CHECK.due("fold of " + text.replace("\n", "/"), Check.fold(x, text), -1000 - place);
         CHECK.due("leaves stay", x.count(5), 2);
     }
@@ -55,7 +55,7 @@ public final class FoldingTest {
         wrong("sheet 2 2\nfold La\n", 15);
     }
 
-    private static void pages(PaperHouse x, String what, int[] due) {
+    private static void pages(House x, String what, int[] due) {
         int rows = x.where(0, 2) == PaperHouse.NONE ? 0 : due.length / 2;
         CHECK.due(what + " has pages", rows > 0);
         for (int i = 0; i < due.length; i++) {
@@ -66,7 +66,7 @@ public final class FoldingTest {
     }
 
     private static void atFirst() {
-        PaperHouse x = new PaperHouse();
+        House x = new House();
         pages(x, "at first", new int[] {1, 0, 2, 3});
         CHECK.due("page(1, 0, 0, 0)", x.page(1, 0, 0, 0), PaperHouse.NONE);
         CHECK.due("page(-1, 0, 0, 0)", x.page(-1, 0, 0, 0), PaperHouse.NONE);
@@ -86,7 +86,7 @@ public final class FoldingTest {
     }
 
     private static void singleFolds() {
-        PaperHouse x = new PaperHouse();
+        House x = new House();
         CHECK.due("fold r", Check.fold(x, "sheet 1 2\nfold r\n"), 2);
         pages(x, "r", new int[] {2, 3, 1, 0});
         CHECK.due("fold t", Check.fold(x, "sheet 2 1\nfold t\n"), 2);
@@ -103,7 +103,7 @@ public final class FoldingTest {
     }
 
     private static void bookLimits() {
-        PaperHouse x = new PaperHouse();
+        House x = new House();
         CHECK.due("book(3, 1, 2)", x.book(3, 1, 2), 12);
         CHECK.due("book(0, 0, 1)", x.book(0, 0, 1), PaperHouse.NONE);
         CHECK.due("book(9, 0, 1)", x.book(9, 0, 1), PaperHouse.NONE);
@@ -126,7 +126,7 @@ public final class FoldingTest {
 
     /** A single LEAF is all behind: the first SHEET has the last PAGES. */
     private static void nestedOddLeaves() {
-        PaperHouse x = new PaperHouse();
+        House x = new House();
         Check.fold(x, "sheet 1 1\nfold \n");
         CHECK.due("book", x.book(3, 1, 1), 6);
         CHECK.due("sheet 0", x.page(0, 0, 0, 0), 4);
@@ -137,7 +137,7 @@ public final class FoldingTest {
     }
 
     private static void wrongChangesNothing() {
-        PaperHouse x = new PaperHouse();
+        House x = new House();
         Check.fold(x, "sheet 2 1\nfold b\n");
         CHECK.due("wrong", Check.fold(x, "sheet 4 4\nfold ttrl\nx"), -1020);
         CHECK.due("leaves stay", x.count(5), 2);
@@ -147,7 +147,7 @@ public final class FoldingTest {
     private static void anyFolds() {
         Random random = new Random(3);
         for (int run = 0; run < 300; run++) {
-            PaperHouse x = new PaperHouse();
+            House x = new House();
             int rowFolds = random.nextInt(4);
             int columnFolds = random.nextInt(4);
             StringBuilder folds = new StringBuilder();
@@ -167,7 +167,7 @@ public final class FoldingTest {
     }
 
     /** Follows each PANEL by its place and its height above the table while the sheet is folded. */
-    private static void compare(PaperHouse x, int rows, int columns, String folds, Random random) {
+    private static void compare(House x, int rows, int columns, String folds, Random random) {
         int leaves = rows * columns;
         String text = "sheet " + rows + " " + columns + "\nfold " + folds + "\n";
         CHECK.due(text, Check.fold(x, text), leaves);

@@ -15,7 +15,7 @@ public final class JobsTest {
     }
 
     private static void limits() {
-        PaperHouse x = new PaperHouse();
+        House x = new House();
         CHECK.due("job(4, 1, 1, 0)", x.job(4, 1, 1, 0), PaperHouse.NONE);
         CHECK.due("job(-1, 1, 1, 0)", x.job(-1, 1, 1, 0), PaperHouse.NONE);
         CHECK.due("job(0, 0, 1, 0)", x.job(0, 0, 1, 0), PaperHouse.NONE);
@@ -54,7 +54,7 @@ public final class JobsTest {
     }
 
     private static void changeAndDry() {
-        PaperHouse x = new PaperHouse();
+        House x = new House();
         x.job(0, 10, 20, 0);
         x.job(1, 10, 20, 999);
         int[][] due = {{0, 10, 10, 30, 30}, {15, 25, 30, 50, 0}};
@@ -76,14 +76,14 @@ public final class JobsTest {
     }
 
     private static void ties() {
-        PaperHouse x = new PaperHouse();
+        House x = new House();
         for (int i = 0; i < 6; i++) {
             x.job(2, 5, 5, 999);
         }
         for (int i = 0; i < 6; i++) {
             CHECK.due("all alike: by number " + i, x.order(i), i);
         }
-        PaperHouse y = new PaperHouse();
+        House y = new House();
         y.job(0, 9, 1, 999);
         y.job(0, 1, 9, 999);
         CHECK.due("none is late: the earlier end", y.order(0), 1);
@@ -94,7 +94,7 @@ public final class JobsTest {
     private static void anyJobs() {
         Random random = new Random(31);
         for (int run = 0; run < 300; run++) {
-            PaperHouse x = new PaperHouse();
+            House x = new House();
             List<int[]> jobs = new ArrayList<>();
             int change = 5;
             int dry = 0;
@@ -136,7 +136,7 @@ public final class JobsTest {
             this.dry = dry;
         }
 
-        void compare(PaperHouse x) {
+        void compare(House x) {
             permute(new ArrayList<>());
             int[][] times = reckon(best);
             int late = 0;

@@ -21,7 +21,7 @@ public final class LettersTest {
     }
 
     private static void wrong(String text, int place) {
-        PaperHouse x = new PaperHouse();
+        House x = new House();
         CHECK.due("letters of " + text.replace("\n", "/"), Check.letters(x, text), -1000 - place);
         CHECK.due("none came", x.count(11), 0);
     }
@@ -50,7 +50,7 @@ public final class LettersTest {
     }
 
     private static void ordering() {
-        PaperHouse x = new PaperHouse();
+        House x = new House();
         CHECK.due("letters", Check.letters(x, "00010 b\n00010 ab\n00010 a\n00009 z\n99999 a1b2c3d4\n00010 a1\n00010 b\n"), 6);
         String[] names = {"z", "a", "a1", "ab", "b", "a1b2c3d4"};
         int[] codes = {9, 10, 10, 10, 10, 99999};
@@ -84,7 +84,7 @@ public final class LettersTest {
     }
 
     private static void full() {
-        PaperHouse x = new PaperHouse();
+        House x = new House();
         CHECK.due("40", Check.letters(x, forty(0)), 40);
         CHECK.due("79", Check.letters(x, forty(39)), 79);
         CHECK.due("119", Check.letters(x, forty(79)), 119);
@@ -103,7 +103,7 @@ public final class LettersTest {
     }
 
     private static void limits() {
-        PaperHouse x = new PaperHouse();
+        House x = new House();
         Check.letters(x, "12345 abc\n");
         CHECK.due("letter(1, 0)", x.letter(1, 0), PaperHouse.NONE);
         CHECK.due("letter(-1, 0)", x.letter(-1, 0), PaperHouse.NONE);
@@ -143,14 +143,14 @@ public final class LettersTest {
         return text.toString();
     }
 
-    private static void bundle(PaperHouse x, int k, int kind, int size, int first) {
+    private static void bundle(House x, int k, int kind, int size, int first) {
         CHECK.due("bundle " + k + " kind", x.bundle(k, 0), kind);
         CHECK.due("bundle " + k + " size", x.bundle(k, 1), size);
         CHECK.due("bundle " + k + " first", x.bundle(k, 2), first);
     }
 
     private static void bundlesAtFirst() {
-        PaperHouse x = new PaperHouse();
+        House x = new House();
         Check.letters(x, many("20000", 0, 14));
         CHECK.due("10 and 4", x.count(12), 2);
         bundle(x, 0, 0, 10, 0);
@@ -162,7 +162,7 @@ public final class LettersTest {
     }
 
     private static void threeKinds() {
-        PaperHouse x = new PaperHouse();
+        House x = new House();
         Check.letters(x, many("10001", 0, 4) + many("10002", 0, 2) + many("10099", 0, 3) + many("10100", 0, 1)
                 + many("20000", 0, 7) + many("20001", 0, 1) + many("30000", 0, 1));
         CHECK.due("bundles", x.bundles(3, 3), 7);
@@ -183,7 +183,7 @@ public final class LettersTest {
         Random random = new Random(29);
         for (int run = 0; run < 60; run++) {
             Model model = new Model();
-            for (int step = 0; step < 25; step++) {
+            for (int step = 0; step < 60 && model.x.room() >= 40; step++) {
                 model.step(random);
             }
         }
@@ -191,7 +191,7 @@ public final class LettersTest {
 
     /** THE LIST as the texts of its LETTERS, and BUNDLES as lists of them. */
     private static final class Model {
-        private final PaperHouse x = new PaperHouse();
+        private final House x = new House();
         private final List<String> inOrderOfComing = new ArrayList<>();
         private int least = 4;
         private int most = 10;

@@ -16,7 +16,7 @@ public final class PilesTest {
     }
 
     private static void wrong(String text, int place) {
-        PaperHouse x = new PaperHouse();
+        House x = new House();
         CHECK.due("pile of " + text.replace("\n", "/"), Check.pile(x, 100, 50, text), -1000 - place);
         CHECK.due("no pile", x.count(10), 0);
     }
@@ -55,7 +55,7 @@ public final class PilesTest {
         return text.toString();
     }
 
-    private static void piece(PaperHouse x, int k, int left, int top, int wide, int high) {
+    private static void piece(House x, int k, int left, int top, int wide, int high) {
         CHECK.due("piece " + k + " x", x.piece(k, 0), left);
         CHECK.due("piece " + k + " y", x.piece(k, 1), top);
         CHECK.due("piece " + k + " width", x.piece(k, 2), wide);
@@ -63,7 +63,7 @@ public final class PilesTest {
     }
 
     private static void pileLimits() {
-        PaperHouse x = new PaperHouse();
+        House x = new House();
         CHECK.due("pile(0, 1)", x.pile(0, 1), PaperHouse.NONE);
         CHECK.due("pile(1, 0)", x.pile(1, 0), PaperHouse.NONE);
         CHECK.due("pile(1000, 1)", x.pile(1000, 1), PaperHouse.NONE);
@@ -86,7 +86,7 @@ public final class PilesTest {
     }
 
     private static void manyCuts() {
-        PaperHouse x = new PaperHouse();
+        House x = new House();
         CHECK.due("30 cuts", Check.pile(x, 100, 50, cuts(30)), 31);
         CHECK.due("count(10)", x.count(10), 31);
         piece(x, 0, 0, 0, 1, 50);
@@ -100,7 +100,7 @@ public final class PilesTest {
     }
 
     private static void wrongChangesNothing() {
-        PaperHouse x = new PaperHouse();
+        House x = new House();
         Check.pile(x, 10, 20, "y 0 5\n");
         CHECK.due("wrong", Check.pile(x, 30, 30, "x 0 3\nx 0 2\nx 0 9\n"), -1016);
         CHECK.due("pieces stay", x.count(10), 2);
@@ -111,7 +111,7 @@ public final class PilesTest {
     private static void anyPiles() {
         Random random = new Random(23);
         for (int run = 0; run < 100; run++) {
-            PaperHouse x = new PaperHouse();
+            House x = new House();
             int wide = 1 + random.nextInt(40);
             int high = 1 + random.nextInt(40);
             int[][] owner = new int[high][wide];
@@ -166,7 +166,7 @@ public final class PilesTest {
     }
 
     private static void wrongCopy(String text, int place) {
-        CHECK.due("gather of " + text.replace("\n", "/"), Check.gather(new PaperHouse(), text), -1000 - place);
+        CHECK.due("gather of " + text.replace("\n", "/"), Check.gather(new House(), text), -1000 - place);
     }
 
     private static void wrongCopies() {
@@ -187,7 +187,7 @@ public final class PilesTest {
     }
 
     private static void copies() {
-        PaperHouse x = new PaperHouse();
+        House x = new House();
         CHECK.due("one of one", Check.gather(x, "1\n"), 0);
         CHECK.due("another one", Check.gather(x, "2\n"), 1);
         CHECK.due("one too many", Check.gather(x, "1 1\n"), 2);

@@ -16,7 +16,7 @@ public final class PlatesTest {
     }
 
     private static void wrong(String text, int place) {
-        PaperHouse x = new PaperHouse();
+        House x = new House();
         Check.draw(x, 1, "box 0 0 8 8 16\n");
         CHECK.due("draw of " + text.replace("\n", "/"), Check.draw(x, 1, text), -1000 - place);
         CHECK.due("the page stays", x.point(0, 0, 3, 3), 1);
@@ -53,7 +53,7 @@ public final class PlatesTest {
     }
 
     private static void shapes() {
-        PaperHouse x = new PaperHouse();
+        House x = new House();
         CHECK.due("whole", Check.draw(x, 0, "box 0 0 8 8 16\n"), 1024);
         CHECK.due("one dot alone: it is all 0 ahead", Check.draw(x, 0, "box 0 0 1 1 16\n"), 16);
         CHECK.due("cut off at the right", Check.draw(x, 0, "box 6 7 8 8 3\n"), 6);
@@ -69,7 +69,7 @@ public final class PlatesTest {
     }
 
     private static void pageLimits() {
-        PaperHouse x = new PaperHouse();
+        House x = new House();
         CHECK.due("draw(31)", Check.draw(x, 31, "box 0 0 1 1 1\n"), 1);
         CHECK.due("draw(32)", Check.draw(x, 32, "box 0 0 1 1 1\n"), PaperHouse.NONE);
         CHECK.due("draw(-1)", x.draw(-1), PaperHouse.NONE);
@@ -87,7 +87,7 @@ public final class PlatesTest {
 
     private static void thresholds() {
         for (int tone = 0; tone <= 16; tone++) {
-            PaperHouse x = new PaperHouse();
+            House x = new House();
             Check.draw(x, 2, "box 0 0 8 8 " + tone + "\n");
             for (int i = 0; i < 64; i++) {
                 CHECK.due("tone " + tone + " at " + i, x.point(0, 0, 8 + i % 8, i / 8),
@@ -99,7 +99,7 @@ public final class PlatesTest {
     }
 
     private static void foldKeepsDrawings() {
-        PaperHouse x = new PaperHouse();
+        House x = new House();
         Check.draw(x, 3, "box 0 0 8 8 16\n");
         Check.fold(x, "sheet 1 1\nfold \n");
         CHECK.due("page 3 is not in it", x.point(0, 1, 0, 0), 0);
@@ -110,7 +110,7 @@ public final class PlatesTest {
     private static void anyPlates() {
         Random random = new Random(11);
         for (int run = 0; run < 60; run++) {
-            PaperHouse x = new PaperHouse();
+            House x = new House();
             int rowFolds = random.nextInt(4);
             int columnFolds = random.nextInt(4);
             String folds = (random.nextBoolean() ? "tbt" : "bbt").substring(0, rowFolds)
@@ -122,7 +122,7 @@ public final class PlatesTest {
         }
     }
 
-    private static int[][] drawAll(PaperHouse x, Random random) {
+    private static int[][] drawAll(House x, Random random) {
         int[][] tones = new int[2048][64];
         for (int page = 0; page < 32; page++) {
             StringBuilder text = new StringBuilder();
@@ -151,7 +151,7 @@ public final class PlatesTest {
     }
 
     /** Makes the plates PANEL by PANEL from what page() tells, and compares each POINT and each ZONE. */
-    private static void compare(PaperHouse x, int[][] tones, int rows, int columns, int s) {
+    private static void compare(House x, int[][] tones, int rows, int columns, int s) {
         for (int side = 0; side < 2; side++) {
             int[] coverage = new int[columns];
             for (int row = 0; row < rows; row++) {

@@ -21,15 +21,15 @@ public final class PressTest {
     }
 
     /** Both ZONES of the FRONT covered with a TONE. */
-    private static PaperHouse covered(int left, int right) {
-        PaperHouse x = new PaperHouse();
+    private static House covered(int left, int right) {
+        House x = new House();
         Check.draw(x, 1, "box 0 0 8 8 " + left + "\n");
         Check.draw(x, 2, "box 0 0 8 8 " + right + "\n");
         return x;
     }
 
     private static void limits() {
-        PaperHouse x = covered(8, 8);
+        House x = covered(8, 8);
         CHECK.due("key(8, 0)", x.key(8, 0), PaperHouse.NONE);
         CHECK.due("key(-1, 0)", x.key(-1, 0), PaperHouse.NONE);
         CHECK.due("key(0, 256)", x.key(0, 256), PaperHouse.NONE);
@@ -68,7 +68,7 @@ public final class PressTest {
     }
 
     private static void mounting() {
-        PaperHouse x = covered(8, 16);
+        House x = covered(8, 16);
         x.key(0, 100);
         x.key(1, 50);
         x.aim(100, 400, 0);
@@ -92,7 +92,7 @@ public final class PressTest {
     }
 
     private static void copyStays() {
-        PaperHouse x = covered(16, 8);
+        House x = covered(16, 8);
         x.mount(0, 0);
         Check.draw(x, 1, "box 0 0 1 1 0\n");
         Check.fold(x, "sheet 1 1\nfold \n");
@@ -104,7 +104,7 @@ public final class PressTest {
     }
 
     private static void spoiledAndNumbers() {
-        PaperHouse x = new PaperHouse();
+        House x = new House();
         x.mount(0, 0);
         x.aim(4000, 0, 3);
         CHECK.due("without coverage all but each third", x.print(10), 7);
@@ -129,7 +129,7 @@ public final class PressTest {
     }
 
     private static void manySheets() {
-        PaperHouse x = covered(16, 0);
+        House x = covered(16, 0);
         x.mount(0, 0);
         x.key(0, 255);
         x.key(1, 255);
@@ -153,7 +153,7 @@ public final class PressTest {
     }
 
     private static void goodLimits() {
-        PaperHouse x = new PaperHouse();
+        House x = new House();
         x.mount(0, 1);
         CHECK.due("good(200)", x.good(200), 200);
         x.aim(0, 0, 2);
@@ -167,7 +167,7 @@ public final class PressTest {
     private static void aimAtFirst() {
         boolean[] seen = new boolean[5000];
         for (int v = 0; v < 256; v++) {
-            PaperHouse x = covered(12, 0);
+            House x = covered(12, 0);
             x.key(0, v);
             x.mount(0, 0);
             for (int i = 0; i < 60; i++) {
@@ -181,7 +181,7 @@ public final class PressTest {
     }
 
     private static void numbersAnew() {
-        PaperHouse x = new PaperHouse();
+        House x = new House();
         x.mount(0, 0);
         x.print(40);
         x.mount(0, 0);
@@ -203,7 +203,7 @@ public final class PressTest {
 
     /** A COVERAGE below ROWS has no SHARE: no DENSITY, but the ZONE counts. */
     private static void smallShare() {
-        PaperHouse x = new PaperHouse();
+        House x = new House();
         Check.fold(x, "sheet 2 1\nfold t\n");
         Check.draw(x, 2, "box 0 0 1 1 16\n");
         CHECK.due("mount", x.mount(0, 0), 1);
@@ -223,7 +223,7 @@ public final class PressTest {
     private static void anyPrinting() {
         Random random = new Random(5);
         for (int run = 0; run < 60; run++) {
-            PaperHouse x = new PaperHouse();
+            House x = new House();
             int rowFolds = random.nextInt(3);
             int columnFolds = random.nextInt(4);
             Check.fold(x, "sheet " + (1 << rowFolds) + " " + (1 << columnFolds) + "\nfold "
@@ -238,7 +238,7 @@ public final class PressTest {
 
     /** The press again, one ZONE after the other, by longs. */
     private static final class Model {
-        private final PaperHouse x;
+        private final House x;
         private final int zones;
         private final long[] share;
         private final long[] coverage;
@@ -253,7 +253,7 @@ public final class PressTest {
         private int spoiled = 0;
         private int good = 0;
 
-        Model(PaperHouse x, int rows, int columns) {
+        Model(House x, int rows, int columns) {
             this.x = x;
             zones = columns;
             share = new long[columns];

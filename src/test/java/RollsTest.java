@@ -16,7 +16,7 @@ public final class RollsTest {
     }
 
     private static void wrong(String text, int place) {
-        PaperHouse x = new PaperHouse();
+        House x = new House();
         CHECK.due("cut of " + text.replace("\n", "/"), Check.cut(x, text), -1000 - place);
         CHECK.due("no PLAN behind it", x.count(3), 0);
     }
@@ -64,7 +64,7 @@ public final class RollsTest {
     }
 
     private static void edges() {
-        PaperHouse x = new PaperHouse();
+        House x = new House();
         CHECK.due("50 wide, all of it", Check.cut(x, "roll 50 1\ncut 50 1\n"), 1);
         CHECK.due("lost", x.pattern(0, -1), 0);
         CHECK.due("400 wide, 1 knife", Check.cut(x, "roll 400 1\ncut 10 9\ncut 11 7\n"), 16);
@@ -84,7 +84,7 @@ public final class RollsTest {
     }
 
     private static void wrongChangesNothing() {
-        PaperHouse x = new PaperHouse();
+        House x = new House();
         Check.cut(x, "roll 100 5\ncut 30 4\n");
         CHECK.due("wrong", Check.cut(x, "roll 200 5\ncut 20 4\ncut 30 1"), -1028);
         CHECK.due("rolls stay", x.count(3), 2);
@@ -96,22 +96,24 @@ public final class RollsTest {
 
     private static void anyPlans() {
         Random random = new Random(7);
-        PaperHouse x = new PaperHouse();
+        House x = new House();
         for (int run = 0; run < 400; run++) {
+            x = x.room() < 20 ? new House() : x;
             compare(x, random, 7);
         }
     }
 
     private static void greatPlans() {
         Random random = new Random(8);
-        PaperHouse x = new PaperHouse();
+        House x = new House();
         for (int run = 0; run < 60; run++) {
+            x = x.room() < 20 ? new House() : x;
             compare(x, random, 11);
         }
     }
 
     /** Compares THE PLAN with the best one of all plans, each built piece by piece. */
-    private static void compare(PaperHouse x, Random random, int most) {
+    private static void compare(House x, Random random, int most) {
         int roll = 50 + random.nextInt(60);
         int knives = 1 + random.nextInt(6);
         int kinds = 1 + random.nextInt(4);

@@ -11,7 +11,7 @@ public final class TapeTest {
     }
 
     private static void newObject() {
-        PaperHouse x = new PaperHouse();
+        House x = new House();
         int[] counts = {0, 0, 0, 0, 0, 2, 1, 0, 0, 0, 0, 0, 0, 0};
         for (int what = 0; what < counts.length; what++) {
             CHECK.due("new count(" + what + ")", x.count(what), counts[what]);
@@ -44,7 +44,7 @@ public final class TapeTest {
     }
 
     private static void feedAndEnd() {
-        PaperHouse x = new PaperHouse();
+        House x = new House();
         CHECK.due("end(0) of none", x.end(0), 0);
         CHECK.due("end(1) of none", x.end(1), PaperHouse.NONE);
         for (int i = 1; i <= 80; i++) {
@@ -73,13 +73,13 @@ public final class TapeTest {
         }
     }
 
-    private static int wordsOf(PaperHouse x, int a, int b, int c, int d, int e) {
+    private static int wordsOf(House x, int a, int b, int c, int d, int e) {
         x.feed(a, b, c, d, e);
         return x.set(200);
     }
 
     private static void tapeBehindCalls() {
-        PaperHouse x = new PaperHouse();
+        House x = new House();
         Check.tape(x, "a\n");
         CHECK.due("set NONE", x.set(19), PaperHouse.NONE);
         CHECK.due("draw NONE", x.draw(32), PaperHouse.NONE);
@@ -99,7 +99,7 @@ public final class TapeTest {
         CHECK.due("the tape is empty behind 0", x.end(1), PaperHouse.NONE);
     }
 
-    private static int textCall(PaperHouse x, int call) {
+    private static int textCall(House x, int call) {
         switch (call) {
             case 0: return x.cut();
             case 1: return x.fold();
@@ -112,7 +112,7 @@ public final class TapeTest {
     }
 
     private static void wrongBytes() {
-        PaperHouse x = new PaperHouse();
+        House x = new House();
         int[] strange = {0, 9, 13, 31, 127, 128, 200, 255};
         for (int b : strange) {
             Check.bytes(x, new byte[] {'a', ' ', (byte) b, '\n'});

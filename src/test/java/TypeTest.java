@@ -20,7 +20,7 @@ public final class TypeTest {
     }
 
     private static void wrong(String text, int place) {
-        PaperHouse x = new PaperHouse();
+        House x = new House();
         CHECK.due("set of " + text.replace("\n", "/"), Check.set(x, 100, text), -1000 - place);
         CHECK.due("nothing is set", x.count(9), 0);
         CHECK.due("nothing is taken", x.left(1), 20);
@@ -47,7 +47,7 @@ public final class TypeTest {
     }
 
     private static void limits() {
-        PaperHouse x = new PaperHouse();
+        House x = new House();
         CHECK.due("sorts(0, 1, 1)", x.sorts(0, 1, 1), PaperHouse.NONE);
         CHECK.due("sorts(27, 1, 1)", x.sorts(27, 1, 1), PaperHouse.NONE);
         CHECK.due("sorts(1, -1, 1)", x.sorts(1, -1, 1), PaperHouse.NONE);
@@ -82,7 +82,7 @@ public final class TypeTest {
     }
 
     private static void sortsRunOut() {
-        PaperHouse x = new PaperHouse();
+        House x = new House();
         x.sorts(1, 3, 4);
         CHECK.due("four of three", Check.set(x, 200, "aa b aa\n"), 0);
         CHECK.due("none is taken", x.left(1), 3);
@@ -95,15 +95,15 @@ public final class TypeTest {
     }
 
     private static void galleyIsFull() {
-        PaperHouse x = new PaperHouse();
+        House x = new House();
         CHECK.due("9 lines", Check.set(x, 20, "mmmm mmmm mmmm m b c d wwww wwww wwww a b\n"), 9);
         CHECK.due("9 lines", x.count(9), 9);
         CHECK.due("4 more", Check.set(x, 20, "e f g h k n o p q r s t\n"), 4);
         CHECK.due("13 lines", x.count(9), 13);
-        PaperHouse z = new PaperHouse();
+        House z = new House();
         CHECK.due("12 lines", Check.set(z, 20, "aaa bbb ccc ddd eee fff ggg hhh kkk nnn ooo ppp\n"), 12);
         CHECK.due("the last one", z.strip(11, 0), 16);
-        PaperHouse y = new PaperHouse();
+        House y = new House();
         for (int i = 0; i < 15; i++) {
             CHECK.due("line " + i, Check.set(y, 20, "i\n"), 1);
         }
@@ -120,7 +120,7 @@ public final class TypeTest {
     }
 
     private static void spreading() {
-        PaperHouse x = new PaperHouse();
+        House x = new House();
         CHECK.due("set", Check.set(x, 29, "a b c d a\n"), 2);
         int[] due = {29, 4, 4, 5, 4};
         for (int what = 0; what < 5; what++) {
@@ -149,7 +149,7 @@ public final class TypeTest {
     }
 
     private static void linesKeepTheirWidths() {
-        PaperHouse x = new PaperHouse();
+        House x = new House();
         Check.set(x, 100, "ab ab\n");
         x.sorts(1, 5, 20);
         CHECK.due("width stays", x.line(0, 0), 19);
@@ -159,7 +159,7 @@ public final class TypeTest {
     }
 
     private static void beyondNinetyNine() {
-        PaperHouse x = new PaperHouse();
+        House x = new House();
         Check.set(x, 100, "aaaaaaaa\n");
         x.sorts(1, 99, 1);
         CHECK.due("distribute", x.distribute(0), 0);
@@ -167,7 +167,7 @@ public final class TypeTest {
     }
 
     private static void longestLine() {
-        PaperHouse x = new PaperHouse();
+        House x = new House();
         x.sorts(1, 99, 1);
         x.sorts(2, 99, 1);
         String text = "aaaaaaaaaaaa ".repeat(6) + "bbbbbbbbbbbb ".repeat(6);
@@ -183,7 +183,7 @@ public final class TypeTest {
         Random random = new Random(17);
         for (int run = 0; run < 100; run++) {
             Model model = new Model();
-            for (int step = 0; step < 30; step++) {
+            for (int step = 0; step < 60 && model.x.room() >= 20; step++) {
                 model.step(random);
             }
         }
@@ -191,7 +191,7 @@ public final class TypeTest {
 
     /** The type room again, with a list of lines. */
     private static final class Model {
-        private final PaperHouse x = new PaperHouse();
+        private final House x = new House();
         private final int[] stock = new int[26];
         private final int[] width = new int[26];
         /** Letters above 0, spaces as 1000 and their width, in the order of reading. */

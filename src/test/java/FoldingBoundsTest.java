@@ -23,6 +23,7 @@ public final class FoldingBoundsTest {
         bookPages();
         pageBounds();
         whereBounds();
+        whereIsWherePageTellsIt();
         gathered();
         nestedHalves();
         nestedSingleLeaves();
@@ -304,9 +305,10 @@ public final class FoldingBoundsTest {
                 CHECK.due("count(5)", x.count(5), rows * columns);
                 for (int sheets : new int[] {1, 3, 8}) {
                     int pages = sheets * rows * columns * 2;
-                    CHECK.due("pages", x.book(sheets, sheets % 2, 1), pages);
-                    CHECK.due("the last page is there", x.where(pages - 1, 4) != PaperHouse.NONE);
+                    CHECK.due("pages", x.book(sheets, sheets % 2, 9), pages);
+                    CHECK.due("the last page is there", x.where(pages - 1, 4), 0);
                     CHECK.none("none behind it", x.where(pages, 4));
+                    CHECK.none("none ahead of the first", x.where(-1, 4));
                 }
             }
         }
@@ -343,7 +345,7 @@ public final class FoldingBoundsTest {
     private static void whereBounds() {
         House x = new House();
         for (int sheets : new int[] {1, 8}) {
-            x.book(sheets, 0, 1);
+            x.book(sheets, sheets % 2, 7);
             for (int what = 0; what <= 4; what++) {
                 CHECK.due("where(0, " + what + ")", x.where(0, what) >= 0);
                 CHECK.due("where(last, " + what + ")", x.where(4 * sheets - 1, what) >= 0);
@@ -361,6 +363,24 @@ public final class FoldingBoundsTest {
         CHECK.due("row", x.where(3, 2), 0);
         CHECK.due("book(1, 0, 1)", x.book(1, 0, 1), 4);
         CHECK.none("pages of sheets that went", x.where(4, 0));
+    }
+
+    /** From the first PAGE to the last one, where() is the place at which page() tells it. */
+    private static void whereIsWherePageTellsIt() {
+        String[] folds = {"sheet 1 1\nfold \n", "sheet 2 2\nfold tl\n", "sheet 8 1\nfold btb\n",
+            "sheet 1 8\nfold rlr\n", "sheet 8 8\nfold lrltbt\n"};
+        int[] leaves = {1, 4, 8, 8, 64};
+        for (int f = 0; f < folds.length; f++) {
+            House x = new Book(folds[f]).x;
+            for (int way = 0; way < 2; way++) {
+                int pages = x.book(3, way, 1);
+                CHECK.due("pages", pages, 6 * leaves[f]);
+                for (int page = 0; page < pages; page++) {
+                    int told = x.page(x.where(page, 0), x.where(page, 1), x.where(page, 2), x.where(page, 3));
+                    CHECK.due("page", told % 1000, page);
+                }
+            }
+        }
     }
 
     /** "Page p, from 0 on, of SHEET s is PAGE s * 2 * LEAVES + p." */

@@ -173,13 +173,24 @@ public final class JobsBoundsTest {
         for (int gone = 0; gone < 6; gone++) {
             House x = new House();
             for (int i = 0; i < 6; i++) {
-                x.job(0, 10 + i, 20 + i, 100 * i);
+                x.job(i / 2, 10 + i, 20 + i, 20 * i);
             }
             CHECK.due("drop(" + gone + ")", x.drop(gone), 5);
+            int late = 0;
             for (int i = 0; i < 5; i++) {
                 int was = i < gone ? i : i + 1;
                 CHECK.due("print of " + i, x.when(i, 1) - x.when(i, 0), 10 + was);
                 CHECK.due("binding of " + i, x.when(i, 3) - x.when(i, 2), 20 + was);
+                CHECK.due("LATE of " + i, x.when(i, 4), Math.max(0, x.when(i, 3) - 20 * was));
+                late += x.when(i, 4);
+            }
+            CHECK.due("sum of LATE", x.count(0), late);
+            for (int k = 1; k < 5; k++) {
+                int ahead = x.order(k - 1);
+                int job = x.order(k);
+                int colour = (job < gone ? job : job + 1) / 2;
+                boolean other = colour != (ahead < gone ? ahead : ahead + 1) / 2;
+                CHECK.due("CHANGE ahead of " + job, x.when(job, 0) - x.when(ahead, 1), other ? 5 : 0);
             }
             CHECK.none("the sixth", x.when(5, 0));
             CHECK.due("the next number", x.job(0, 1, 1, 0), 5);

@@ -20,6 +20,7 @@ public final class LettersBoundsTest {
         directFromLeast();
         directFullOnesAndRest();
         areaFromWhatIsLeft();
+        areaFullOnesAndRest();
         areaOfThreeDigits();
         mixedHoweverFew();
         numberedByKind();
@@ -349,6 +350,35 @@ public final class LettersBoundsTest {
         }
     }
 
+    /** "Likewise": full ones of M, then the rest, if that is L or more; each CODE has too few by itself. */
+    private static void areaFullOnesAndRest() {
+        for (int least = 2; least <= 5; least++) {
+            for (int most = least; most <= 5; most++) {
+                for (int size = 1; size <= 17; size++) {
+                    House x = new House();
+                    StringBuilder text = new StringBuilder();
+                    for (int i = 0; i < size; i++) {
+                        text.append(55500 + 6 * i).append(" a\n");
+                    }
+                    Check.letters(x, text.toString());
+                    int full = size / most;
+                    int rest = size % most;
+                    CHECK.due("all", x.bundles(least, most), full + (rest > 0 ? 1 : 0));
+                    for (int k = 0; k < full; k++) {
+                        CHECK.due("AREA", x.bundle(k, 0), 1);
+                        CHECK.due("a full one", x.bundle(k, 1), most);
+                        CHECK.due("its first", x.bundle(k, 2), k * most);
+                    }
+                    if (rest > 0) {
+                        CHECK.due("its kind", x.bundle(full, 0), rest >= least ? 1 : 2);
+                        CHECK.due("the rest", x.bundle(full, 1), rest);
+                        CHECK.due("its first", x.bundle(full, 2), full * most);
+                    }
+                }
+            }
+        }
+    }
+
     private static void areaOfThreeDigits() {
         House x = new House();
         Check.letters(x, many("09999", 0, 1) + many("10000", 0, 1) + many("10099", 0, 1) + many("10100", 0, 1));
@@ -512,6 +542,20 @@ public final class LettersBoundsTest {
         CHECK.due("the only one", x.strike(0), 0);
         CHECK.none("of none", x.strike(0));
         CHECK.due("no BUNDLES", x.count(12), 0);
+        for (int at = 0; at < 4; at++) {
+            House z = new House();
+            Check.letters(z, "00003 c3\n00001 a\n00004 d444\n00002 bbb\n");
+            int[] came = {1, 3, 0, 2};
+            int[] bytes = {1, 3, 2, 4};
+            CHECK.due("strike(" + at + ")", z.strike(at), 3);
+            for (int i = 0; i < 3; i++) {
+                int was = i < at ? i : i + 1;
+                CHECK.due("CODE " + i, z.letter(i, 0), was + 1);
+                CHECK.due("bytes " + i, z.letter(i, 1), bytes[was]);
+                CHECK.due("NAME " + i, z.letter(i, 10), 'a' + was);
+                CHECK.due("came " + i, z.letter(i, 3), came[was] - (came[at] < came[was] ? 1 : 0));
+            }
+        }
         for (int at : new int[] {0, 60, 119}) {
             House y = filled(120);
             CHECK.due("strike of 120", y.strike(at), 119);
@@ -540,5 +584,15 @@ public final class LettersBoundsTest {
         CHECK.due("BUNDLE of the last", x.letter(0, 2), 0);
         x.strike(0);
         kinds(x, new int[][] {});
+        Check.letters(x, "10000 a\n");
+        CHECK.due("a LETTER's BUNDLE asked first", x.letter(0, 2), 0);
+        Check.letters(x, "20000 a\n20000 b\n");
+        CHECK.due("a LETTER's BUNDLE asked first", x.letter(0, 2), 1);
+        x.strike(0);
+        CHECK.due("a BUNDLE asked first", x.bundle(0, 2), 0);
+        x.strike(0);
+        CHECK.due("a BUNDLE asked first", x.bundle(0, 0), 2);
+        x.strike(0);
+        CHECK.none("a BUNDLE asked first", x.bundle(0, 0));
     }
 }

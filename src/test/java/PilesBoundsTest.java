@@ -102,6 +102,8 @@ public final class PilesBoundsTest {
             CHECK.due(many + " cuts", Check.pile(x, 31, 1, cuts(many)), many + 1);
             CHECK.due("pieces", x.count(10), many + 1);
             piece(x, many, many, 0, 31 - many, 1);
+            CHECK.due("the newest is there", x.on(30, 0), many);
+            CHECK.due("its left edge", x.on(many, 0), many);
             CHECK.none("none behind", x.piece(many + 1, 0));
         }
         String thirty = cuts(30);
@@ -285,6 +287,20 @@ public final class PilesBoundsTest {
         CHECK.due("1", x.pile(3, 3), 1);
         CHECK.due("count", x.count(10), 1);
         CHECK.none("piece(1, 0)", x.piece(1, 0));
+        for (int at = -1; at <= 100; at++) {
+            CHECK.due("on(" + at + ", 2)", x.on(at, 2), at >= 0 && at < 3 ? 0 : PaperHouse.NONE);
+        }
+        House z = new House();
+        pile(z, "x 0 1\n");
+        pile(z, "y 0 1\n");
+        for (int round = 0; round < 2; round++) {
+            CHECK.due("one PIECE", z.pile(2, 2), 1);
+            CHECK.none("none of an older PILE to the right", z.on(50, 1));
+            CHECK.none("none of an older PILE below", z.on(1, 30));
+        }
+        for (int y = -1; y <= 50; y++) {
+            CHECK.due("on(2, " + y + ")", x.on(2, y), y >= 0 && y < 3 ? 0 : PaperHouse.NONE);
+        }
     }
 
     /** "NUMBERS 1 .. 8." */

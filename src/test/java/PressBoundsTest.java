@@ -28,6 +28,7 @@ public final class PressBoundsTest {
         goodUpTo4000();
         settledBounds();
         settledIsTheLeast();
+        settledChangesNothing();
         settledLimits();
         zoneBounds();
         numberBounds();
@@ -172,18 +173,18 @@ public final class PressBoundsTest {
 
     /** "500 and 50 at first", "0: none; 0 at first". */
     private static void aimAtFirst() {
-        House x = covered(64);
-        int met = 0;
-        for (int v = 20; v < 45; v++) {
+        boolean[] met = new boolean[5000];
+        for (int v = 20; v < 60; v++) {
+            House x = covered(48);
             x.key(0, v);
-            for (int i = 0; i < 8; i++) {
+            for (int i = 0; i < 100; i++) {
                 int good = x.print(1);
                 int density = x.zone(0, 3);
                 CHECK.due("GOOD at " + density, good, density >= 450 && density <= 550 ? 1 : 0);
-                met |= density < 450 ? 1 : density > 550 ? 2 : 4;
+                met[density] = true;
             }
         }
-        CHECK.due("below, within and above were met", met, 7);
+        CHECK.due("all edges were met", met[449] && met[450] && met[550] && met[551]);
         House y = new House();
         y.mount(0, 0);
         CHECK.due("none is SPOILED at first", y.print(500), 500);
@@ -566,6 +567,33 @@ public final class PressBoundsTest {
                 }
             }
         }
+    }
+
+    /** SETTLED is reckoned from films of 0; those of the ZONES, their KEYS and what they tell stay. */
+    private static void settledChangesNothing() {
+        House x = new House();
+        Check.fold(x, "sheet 1 8\nfold lll\n");
+        for (int page = 0; page < 16; page++) {
+            Check.draw(x, page, "box 0 0 8 8 " + (1 + page) + "\n");
+        }
+        x.mount(0, 0);
+        for (int zone = 0; zone < 8; zone++) {
+            x.key(zone, 20 + zone);
+        }
+        x.print(7);
+        int[] before = new int[48];
+        for (int i = 0; i < 48; i++) {
+            before[i] = x.zone(i / 6, i % 6);
+            CHECK.due("something is there", before[i] > 0);
+        }
+        for (int zone = 0; zone < 8; zone++) {
+            int told = x.settled(zone);
+            CHECK.due("the same again", x.settled(zone), told);
+            for (int i = 0; i < 48; i++) {
+                CHECK.due("zone(" + i / 6 + ", " + i % 6 + ") stays", x.zone(i / 6, i % 6), before[i]);
+            }
+        }
+        CHECK.due("no sheets more", x.count(7), 7);
     }
 
     /** "255 if there is none; 0 without COVERAGE." */

@@ -343,18 +343,23 @@ public final class TypeBoundsTest {
         for (int gone = 0; gone < 16; gone++) {
             House x = new House();
             for (int i = 0; i < 16; i++) {
-                set(x, (char) ('a' + i) + "z\n");
+                set(x, (char) ('a' + i) + " z\n");
             }
             CHECK.due("left", x.left(26), 4);
             CHECK.due("distribute", x.distribute(gone), 15);
             CHECK.due("its letter", x.left(gone + 1), 20);
             CHECK.due("its z", x.left(26), 5);
             for (int line = 0; line < 15; line++) {
-                CHECK.due("line " + line, x.strip(line, 1), line < gone ? line + 1 : line + 2);
+                CHECK.due("line " + line, x.strip(line, 2), line < gone ? line + 1 : line + 2);
+                CHECK.due("its words", x.line(line, 1), 2);
             }
             CHECK.none("the sixteenth", x.strip(15, 0));
             CHECK.due("a new one", set(x, "yyy\n"), 1);
-            CHECK.due("comes behind", x.line(15, 2), 3);
+            int[] fresh = {12, 1, 3, 0, 0};
+            for (int what = 0; what < 5; what++) {
+                CHECK.due("comes behind, " + what, x.line(15, what), fresh[what]);
+            }
+            CHECK.none("with no more on its strip", x.strip(15, 3));
             CHECK.due("the one ahead stays", x.line(14, 2), 2);
         }
     }

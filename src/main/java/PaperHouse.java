@@ -2011,6 +2011,8 @@ public final class PaperHouse {
     private static final class Workshop {
         private static final int MOST = 6;
         private static final int TOLD = 5;
+        /** More than the sum of all LATE, or the last end, of any ORDER. */
+        private static final int BEYOND = 1000000;
 
         private final int[] colours;
         private final int[] prints;
@@ -2122,8 +2124,8 @@ public final class PaperHouse {
                 return;
             }
             stale = false;
-            bestLate = Integer.MAX_VALUE;
-            bestEnd = Integer.MAX_VALUE;
+            bestLate = BEYOND;
+            bestEnd = BEYOND;
             for (int i = 0; i < MOST; i++) {
                 used[i] = false;
             }

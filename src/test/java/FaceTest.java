@@ -8,6 +8,8 @@ import java.util.Map;
 import java.util.Set;
 import java.util.TreeMap;
 import java.util.TreeSet;
+import java.util.regex.Matcher;
+import java.util.regex.Pattern;
 
 /** The public face, and those rules of LANGUAGE.md that can be seen in the class or in its words. */
 public final class FaceTest {
@@ -16,10 +18,18 @@ public final class FaceTest {
             + " gather0 good1 job4 key2 left1 letter2 letters0 line2 mount2 number1 on2 order1 page4 pattern2 piece2"
             + " pile2 point4 print1 set1 settled1 sorts3 strike1 strip2 times2 when2 where2 zone2";
 
+    /** Rule 4, as far as it is used. */
+    private static final Set<String> LIBRARY = Set.of("Math.min", "Math.max", "Math.abs", "Math.floorDiv",
+            "Integer.bitCount", "System.arraycopy", "String");
+
     public static void main(String[] args) throws Exception {
         face();
         inside();
-        words();
+        String source = Files.readString(Path.of("src/main/java/PaperHouse.java"))
+                .replaceAll("(?s)/\\*.*?\\*/", "").replaceAll("//[^\n]*", "");
+        words(source);
+        library(source);
+        methods(source);
         CHECK.finish();
     }
 
@@ -78,9 +88,7 @@ public final class FaceTest {
         }
     }
 
-    private static void words() throws Exception {
-        String source = Files.readString(Path.of("src/main/java/PaperHouse.java"))
-                .replaceAll("(?s)/\\*.*?\\*/", "").replaceAll("//[^\n]*", "");
+    private static void words(String source) {
         String[] forbidden = {"throw", "throws", "try", "catch", "synchronized", "assert", "import", "package", "null",
             "double", "float", "var", "native", "hashCode", "toString", "Thread", "Random"};
         for (String word : forbidden) {
@@ -89,5 +97,35 @@ public final class FaceTest {
         CHECK.due("no lambda", !source.contains("->"));
         CHECK.due("no method reference", !source.contains("::"));
         CHECK.due("texts are not joined by +", !source.matches("(?s).*(\"\\s*\\+|\\+\\s*\").*"));
+    }
+
+    /** Each class that is named is one of the file's own, or stands in rule 4 with what is used of it. */
+    private static void library(String source) {
+        Set<String> own = new TreeSet<>(Set.of("PaperHouse"));
+        for (Class<?> c : PaperHouse.class.getDeclaredClasses()) {
+            own.add(c.getSimpleName());
+        }
+        Matcher names = Pattern.compile("(?<![\\w.])[A-Z]\\w*[a-z]\\w*(\\.\\w+)?").matcher(source);
+        while (names.find()) {
+            String name = names.group();
+            CHECK.due("may be used: " + name, LIBRARY.contains(name) || own.contains(name.replaceAll("\\..*", "")));
+        }
+    }
+
+    /** Methods stay short, and objects are made by constructors alone. */
+    private static void methods(String source) {
+        String head = "(?m)^( {4}| {8})(?!if|for|while|switch|do|\\}| )[\\w\\[\\] ]+\\(.*\\) \\{$";
+        Matcher heads = Pattern.compile(head).matcher(source);
+        int found = 0;
+        while (heads.find()) {
+            int end = source.indexOf("\n" + heads.group(1) + "}", heads.end());
+            String body = source.substring(heads.end(), end);
+            String name = heads.group().trim();
+            boolean isConstructor = name.matches("(public )?[A-Z]\\w*\\(\\) \\{");
+            CHECK.due("short: " + name, body.lines().count() <= 60);
+            CHECK.due("makes nothing: " + name, isConstructor || !body.matches("(?s).*\\bnew\\b.*"));
+            found++;
+        }
+        CHECK.due("methods that were looked at: " + found, found > 150);
     }
 }
